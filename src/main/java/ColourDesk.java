@@ -303,9 +303,9 @@ public final class ColourDesk {
     private void findAlive() {
         for (int i = 0; i < length; i++) {
             before[i] = 0;
-            behindOf[i] = 0;
         }
-        // A way without a repeated instruction has at most length of them, and each pass goes a step back on all.
+        // Each pass goes at least a step back on every way, and one without a repeated instruction has at most
+        // length of them; the pass more lets behindOf see the last of before.
         for (int pass = 0; pass <= length; pass++) {
             for (int i = length - 1; i >= 0; i--) {
                 behindOf[i] = aliveAfter(i);
