@@ -1,7 +1,5 @@
 /** Each promise of the document, by hand: ordinary inputs, the edges that it names, and wrong inputs. */
-public final class PromisesTest {
-    private static final int LI = 0, ADD = 1, SUB = 2, MUL = 3, LESS = 4, MOVE = 5;
-    private static final int JUMP = 6, ZERO = 7, OUT = 8, IN = 9, STOP = 10;
+public final class PromisesTest extends Bench {
     private static final int[] FAR = {Integer.MIN_VALUE, -100, -2, 21, 33, 100, Integer.MAX_VALUE};
 
     public static void main(String[] args) {
@@ -33,30 +31,6 @@ public final class PromisesTest {
         promise15Rewind();
         promise16UsedRegisters();
         Due.end();
-    }
-
-    /** A desk with this code: four numbers for each instruction. */
-    private static ColourDesk desk(int... code) {
-        ColourDesk x = new ColourDesk();
-        for (int i = 0; i + 3 < code.length; i += 4) {
-            Due.is("put no " + i / 4, x.put(code[i], code[i + 1], code[i + 2], code[i + 3]), i / 4);
-        }
-        return x;
-    }
-
-    private static void places(String what, ColourDesk x, int... want) {
-        for (int t = 0; t < want.length; t++) {
-            Due.is(what + ": place(" + t + ")", x.place(t), want[t]);
-        }
-    }
-
-    private static void outputs(String what, ColourDesk x, int... want) {
-        Due.is(what + ": run", x.run(), ColourDesk.OK);
-        Due.is(what + ": spent(0)", x.spent(0), want.length);
-        for (int k = 0; k < want.length; k++) {
-            Due.is(what + ": output(" + k + ")", x.output(k), want[k]);
-        }
-        Due.is(what + ": output behind the last", x.output(want.length), 0);
     }
 
     private static void constants() {
