@@ -37,6 +37,7 @@ public final class RulesTest {
         String source = Files.readString(SOURCE).replaceAll("(?s)/\\*.*?\\*/", "").replaceAll("//[^\\n]*", "");
         theWords(source);
         theArrays(source);
+        theLoops(source);
         theCalls(source);
         Due.end();
     }
@@ -125,6 +126,15 @@ public final class RulesTest {
         Pattern field = Pattern.compile("    private final (int|boolean)\\[\\] \\w+ = new \\1\\[[A-Z_]+\\];");
         while (m.find()) {
             Due.is("an array is made in a field: " + m.group(), field.matcher(m.group()).matches(), true);
+        }
+    }
+
+    /** Every loop counts, in its own line, towards a bound. */
+    private static void theLoops(String source) {
+        Pattern counted = Pattern.compile("for \\(int (\\w+) = [^;]+; \\1 (?:(?:<|<=) [^;]+; \\1\\+\\+|>= [^;]+; \\1--)\\) \\{");
+        Matcher m = Pattern.compile("(?m)\\b(for|while|do)\\b.*$").matcher(source);
+        while (m.find()) {
+            Due.is("a counter against a bound: " + m.group(), counted.matcher(m.group()).matches(), true);
         }
     }
 
